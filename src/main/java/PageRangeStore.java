@@ -166,13 +166,9 @@ public final class PageRangeStore {
         if (!isSpace(space)) {
             return BAD_SPACE;
         }
-        // Division rounds towards 0, so a negative range could look like a good one.
-        if (range < 0) {
-            return BAD_PLACE;
-        }
         int page = range / RANGE_BASE;
         int count = range % RANGE_BASE;
-        if (!isGoodRange(page, count)) {
+        if (range < 0 || !isGoodRange(page, count)) {
             return BAD_PLACE;
         }
         int first = slotOf(space, page);

@@ -1,5 +1,8 @@
 /** Counts and prints the answers that are not as due; each test runs in a JVM of its own. */
 final class Checks {
+    static final int[] BAD_SPACES = {-1, 2, 3, Integer.MIN_VALUE, Integer.MAX_VALUE};
+    static final int[] BAD_PAGES = {-1, 32, 33, 64, -32, Integer.MIN_VALUE, Integer.MAX_VALUE};
+
     private static int made = 0;
     private static int wrong = 0;
 

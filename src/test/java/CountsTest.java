@@ -85,7 +85,7 @@ public final class CountsTest {
         PageRangeStore store = new PageRangeStore(48);
         store.map(0, 0, 32);
         store.map(1, 0, 5);
-        for (int space : new int[] {-1, 2, 3, Integer.MIN_VALUE, Integer.MAX_VALUE}) {
+        for (int space : Checks.BAD_SPACES) {
             Checks.due("mappedIn(" + space + ")", store.mappedIn(space), -1);
         }
     }

@@ -1,8 +1,5 @@
 /** Promises 14 to 16: remap, duplicate, exchange. */
 public final class MovesTest {
-    private static final int[] BAD_SPACES = {-1, 2, 3, Integer.MIN_VALUE, Integer.MAX_VALUE};
-    private static final int[] BAD_PAGES = {-1, 32, 33, 64, -32, Integer.MIN_VALUE, Integer.MAX_VALUE};
-
     public static void main(String[] args) {
         remapMovesContentAndWritability();
         remapNeedsNoFreeFrame();
@@ -64,11 +61,11 @@ public final class MovesTest {
         store.touch(0, 1, 11);
         store.touch(0, 2, 22);
         store.touch(1, 3, 33);
-        for (int space : BAD_SPACES) {
+        for (int space : Checks.BAD_SPACES) {
             Checks.due("remap(" + space + ", 1, 4)", store.remap(space, 1, 4), -1);
             Checks.due("remap(" + space + ", 32, 32)", store.remap(space, 32, 32), -1);
         }
-        for (int page : BAD_PAGES) {
+        for (int page : Checks.BAD_PAGES) {
             Checks.due("remap(0, " + page + ", 4)", store.remap(0, page, 4), -2);
             Checks.due("remap(0, 1, " + page + ")", store.remap(0, 1, page), -2);
             Checks.due("remap from a page not mapped to " + page, store.remap(0, 5, page), -2);
@@ -121,11 +118,11 @@ public final class MovesTest {
         store.map(1, 3, 4);
         store.stamp(0, 32, 10);
         store.stamp(1, 32, 20);
-        for (int space : BAD_SPACES) {
+        for (int space : Checks.BAD_SPACES) {
             Checks.due("duplicate(" + space + ", 0)", store.duplicate(space, 0), -1);
             Checks.due("duplicate(" + space + ", 32)", store.duplicate(space, 32), -1);
         }
-        for (int page : BAD_PAGES) {
+        for (int page : Checks.BAD_PAGES) {
             Checks.due("duplicate(0, " + page + ")", store.duplicate(0, page), -2);
             Checks.due("duplicate(1, " + page + ")", store.duplicate(1, page), -2);
         }
@@ -182,7 +179,7 @@ public final class MovesTest {
     private static void exchangeRefusesOtherPages() {
         PageRangeStore store = new PageRangeStore(48);
         store.map(0, 0, 32);
-        for (int page : BAD_PAGES) {
+        for (int page : Checks.BAD_PAGES) {
             Checks.due("exchange(" + page + ")", store.exchange(page), -1);
         }
         Checks.due("mappedIn(0) after refusals", store.mappedIn(0), 32);

@@ -1,8 +1,5 @@
 /** Promises 8 to 12, 17 and 18: mapped, writable, read, write, touch, sum, nextMapped. */
 public final class PagesTest {
-    private static final int[] BAD_SPACES = {-1, 2, 3, Integer.MIN_VALUE, Integer.MAX_VALUE};
-    private static final int[] BAD_PAGES = {-1, 32, 33, 64, -32, Integer.MIN_VALUE, Integer.MAX_VALUE};
-
     public static void main(String[] args) {
         mappedTellsMappedPages();
         writableTellsMappedAndWritablePages();
@@ -129,12 +126,12 @@ public final class PagesTest {
         store.map(1, 0, 16);
         store.stamp(0, 32, 1);
         store.stamp(1, 16, 100);
-        for (int space : BAD_SPACES) {
+        for (int space : Checks.BAD_SPACES) {
             badPlaceIsRefused(store, space, 0, -1);
             badPlaceIsRefused(store, space, 32, -1);
             Checks.due("sum(" + space + ")", store.sum(space), 0);
         }
-        for (int page : BAD_PAGES) {
+        for (int page : Checks.BAD_PAGES) {
             badPlaceIsRefused(store, 0, page, -2);
             badPlaceIsRefused(store, 1, page, -2);
         }
