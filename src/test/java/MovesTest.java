@@ -13,20 +13,6 @@ public final class MovesTest {
         Checks.finish();
     }
 
-    private static void page(String when, PageRangeStore store, int space, int page, int writable, int content) {
-        String told = "(" + space + ", " + page + ") " + when;
-        Checks.due("mapped" + told, store.mapped(space, page), 1);
-        Checks.due("writable" + told, store.writable(space, page), writable);
-        Checks.due("read" + told, store.read(space, page), content);
-    }
-
-    private static void noPage(String when, PageRangeStore store, int space, int page) {
-        String told = "(" + space + ", " + page + ") " + when;
-        Checks.due("mapped" + told, store.mapped(space, page), 0);
-        Checks.due("writable" + told, store.writable(space, page), 0);
-        Checks.due("read" + told, store.read(space, page), 0);
-    }
-
     private static void remapMovesContentAndWritability() {
         for (int space = 0; space < 2; space++) {
             PageRangeStore store = new PageRangeStore(8);
@@ -35,15 +21,15 @@ public final class MovesTest {
             store.protect(space, 30, 1, 0);
             store.touch(1 - space, 0, 33);
             Checks.due("remap of a writable page", store.remap(space, 0, 31), 0);
-            noPage("after remap away", store, space, 0);
-            page("after remap", store, space, 31, 1, 11);
+            Checks.noPage("after remap away", store, space, 0);
+            Checks.page("after remap", store, space, 31, 1, 11);
             Checks.due("remap of a read-only page", store.remap(space, 30, 0), 0);
-            noPage("after remap away", store, space, 30);
-            page("after remap", store, space, 0, 0, 22);
-            page("in the other space", store, 1 - space, 0, 1, 33);
+            Checks.noPage("after remap away", store, space, 30);
+            Checks.page("after remap", store, space, 0, 0, 22);
+            Checks.page("in the other space", store, 1 - space, 0, 1, 33);
             Checks.due("used() after remap", store.used(), 3);
             Checks.due("remap over a place once read-only", store.remap(space, 31, 30), 0);
-            page("after remap", store, space, 30, 1, 11);
+            Checks.page("after remap", store, space, 30, 1, 11);
         }
     }
 
@@ -52,7 +38,7 @@ public final class MovesTest {
         store.map(0, 0, 8);
         store.stamp(0, 8, 50);
         Checks.due("remap with all frames used", store.remap(0, 7, 20), 0);
-        page("after remap with all frames used", store, 0, 20, 1, 57);
+        Checks.page("after remap with all frames used", store, 0, 20, 1, 57);
         Checks.due("used() after it", store.used(), 8);
     }
 
@@ -78,9 +64,9 @@ public final class MovesTest {
         Checks.due("remap to a mapped page", store.remap(0, 1, 2), -4);
         Checks.due("remap of a mapped page to itself", store.remap(0, 1, 1), -4);
         Checks.due("remap to what only the other space has", store.remap(0, 1, 3), 0);
-        page("after refusals", store, 0, 2, 1, 22);
-        page("after refusals", store, 0, 3, 1, 11);
-        page("after refusals", store, 1, 3, 1, 33);
+        Checks.page("after refusals", store, 0, 2, 1, 22);
+        Checks.page("after refusals", store, 0, 3, 1, 11);
+        Checks.page("after refusals", store, 1, 3, 1, 33);
         Checks.due("used() after refusals", store.used(), 3);
     }
 
@@ -91,11 +77,11 @@ public final class MovesTest {
             store.touch(space, 31, -22);
             store.protect(space, 31, 1, 0);
             Checks.due("duplicate of a writable page", store.duplicate(space, 0), 0);
-            page("after duplicate", store, 1 - space, 0, 1, 11);
-            page("duplicated", store, space, 0, 1, 11);
+            Checks.page("after duplicate", store, 1 - space, 0, 1, 11);
+            Checks.page("duplicated", store, space, 0, 1, 11);
             Checks.due("duplicate of a read-only page", store.duplicate(space, 31), 0);
-            page("after duplicate", store, 1 - space, 31, 0, -22);
-            page("duplicated", store, space, 31, 0, -22);
+            Checks.page("after duplicate", store, 1 - space, 31, 0, -22);
+            Checks.page("duplicated", store, space, 31, 0, -22);
             Checks.due("used() after duplicate", store.used(), 4);
         }
     }
@@ -105,11 +91,11 @@ public final class MovesTest {
         store.touch(0, 6, 1);
         store.duplicate(0, 6);
         store.write(0, 6, 2);
-        page("after a write to the other", store, 1, 6, 1, 1);
+        Checks.page("after a write to the other", store, 1, 6, 1, 1);
         store.protect(1, 6, 1, 0);
-        page("after a protect of the copy", store, 0, 6, 1, 2);
+        Checks.page("after a protect of the copy", store, 0, 6, 1, 2);
         store.unmap(0, 6, 1);
-        page("after an unmap of the other", store, 1, 6, 0, 1);
+        Checks.page("after an unmap of the other", store, 1, 6, 0, 1);
     }
 
     private static void duplicateRefusesInOrder() {
@@ -130,9 +116,9 @@ public final class MovesTest {
         Checks.due("duplicate of a page not mapped", store.duplicate(0, 20), -3);
         Checks.due("duplicate onto a mapped page with no frame left", store.duplicate(0, 3), -4);
         Checks.due("duplicate with no frame left", store.duplicate(0, 0), -5);
-        page("after refusals", store, 0, 3, 1, 13);
-        page("after refusals", store, 1, 3, 1, 20);
-        noPage("after refusals", store, 1, 0);
+        Checks.page("after refusals", store, 0, 3, 1, 13);
+        Checks.page("after refusals", store, 1, 3, 1, 20);
+        Checks.noPage("after refusals", store, 1, 0);
         store.unmap(1, 6, 1);
         Checks.due("duplicate with one frame left", store.duplicate(0, 0), 0);
         Checks.due("duplicate with no frame left again", store.duplicate(1, 5), -5);
@@ -146,13 +132,13 @@ public final class MovesTest {
         store.protect(1, 0, 1, 0);
         store.touch(0, 1, 33);
         Checks.due("exchange(0)", store.exchange(0), 0);
-        page("after exchange", store, 0, 0, 0, 22);
-        page("after exchange", store, 1, 0, 1, 11);
-        page("beside the exchange", store, 0, 1, 1, 33);
-        noPage("beside the exchange", store, 1, 1);
+        Checks.page("after exchange", store, 0, 0, 0, 22);
+        Checks.page("after exchange", store, 1, 0, 1, 11);
+        Checks.page("beside the exchange", store, 0, 1, 1, 33);
+        Checks.noPage("beside the exchange", store, 1, 1);
         Checks.due("exchange(0) back", store.exchange(0), 0);
-        page("after exchange back", store, 0, 0, 1, 11);
-        page("after exchange back", store, 1, 0, 0, 22);
+        Checks.page("after exchange back", store, 0, 0, 1, 11);
+        Checks.page("after exchange back", store, 1, 0, 0, 22);
     }
 
     private static void exchangeMovesAPageToTheOtherSpace() {
@@ -162,17 +148,17 @@ public final class MovesTest {
         store.stamp(0, 64 * 24 + 8, 40);
         store.protect(0, 31, 1, 0);
         Checks.due("exchange(31) with all frames used", store.exchange(31), 0);
-        noPage("after exchange away", store, 0, 31);
-        page("after exchange", store, 1, 31, 0, 47);
+        Checks.noPage("after exchange away", store, 0, 31);
+        Checks.page("after exchange", store, 1, 31, 0, 47);
         Checks.due("exchange(24)", store.exchange(24), 0);
-        noPage("after exchange away", store, 0, 24);
-        page("after exchange", store, 1, 24, 1, 40);
+        Checks.noPage("after exchange away", store, 0, 24);
+        Checks.page("after exchange", store, 1, 24, 1, 40);
         Checks.due("exchange(24) back", store.exchange(24), 0);
-        noPage("after exchange back", store, 1, 24);
-        page("after exchange back", store, 0, 24, 1, 40);
+        Checks.noPage("after exchange back", store, 1, 24);
+        Checks.page("after exchange back", store, 0, 24, 1, 40);
         Checks.due("exchange of two pages not mapped", store.exchange(3), 0);
-        noPage("after an exchange of nothing", store, 0, 3);
-        noPage("after an exchange of nothing", store, 1, 3);
+        Checks.noPage("after an exchange of nothing", store, 0, 3);
+        Checks.noPage("after an exchange of nothing", store, 1, 3);
         Checks.due("used() after exchange", store.used(), 8);
     }
 

@@ -36,12 +36,7 @@ public final class RangesTest {
     }
 
     private static void badRangesAreRefused() {
-        int least = Integer.MIN_VALUE;
-        int most = Integer.MAX_VALUE;
-        int[][] ranges = {{0, 0}, {0, -1}, {0, 33}, {1, 32}, {31, 2}, {32, 1}, {32, 0}, {-1, 1}, {-1, 2}, {-1, 33}, {33, -1},
-            {33, -2}, {most, 1}, {most, 2}, {1, most}, {most, most}, {least, 1}, {least, 32}, {0, least}, {least, least},
-            {-32, 64}, {most - 31, 32}, {least + 1, most}, {2, most}};
-        for (int[] range : ranges) {
+        for (int[] range : Checks.BAD_RANGES) {
             int page = range[0];
             int count = range[1];
             String told = "(0, " + page + ", " + count + ")";
@@ -214,9 +209,7 @@ public final class RangesTest {
     private static void stampRefusesBadRanges() {
         PageRangeStore store = new PageRangeStore(48);
         store.map(0, 0, 32);
-        int[] bad = {0, 33, 63, 64, 64 + 32, 64 * 31, 64 * 31 + 2, 64 * 32, 64 * 32 + 1, -1, -64, -32, -63,
-            64 * -1 + 1, Integer.MIN_VALUE, Integer.MIN_VALUE + 1, Integer.MAX_VALUE, Integer.MAX_VALUE - 62};
-        for (int range : bad) {
+        for (int range : Checks.BAD_STAMP_RANGES) {
             Checks.due("stamp(0, " + range + ", 5)", store.stamp(0, range, 5), -2);
             Checks.due("stamp(2, " + range + ", 5)", store.stamp(2, range, 5), -1);
         }
